@@ -1,3 +1,4 @@
+/** Tracks the progress of several workers over a cyclic dataflow graph, as DOC.md promises. */
 public final class ProgressTracker {
     public static final int OK = 0;
     public static final int BAD_ARG = -1;
@@ -427,18 +428,20 @@ public final class ProgressTracker {
 
     private void removeOldestEntries(int channel, int entries) {
         int first = channel * CHANNEL_CAPACITY;
-        entryCount[channel] -= entries;
-        for (int i = 0; i < entryCount[channel]; i++) {
+        int left = entryCount[channel] - entries;
+        for (int i = 0; i < left; i++) {
             entryPoint[first + i] = entryPoint[first + i + entries];
             entryDelta[first + i] = entryDelta[first + i + entries];
         }
+        entryCount[channel] = left;
     }
 
     private void removeOldestSize(int channel) {
         int first = channel * CHANNEL_CAPACITY;
-        batchCount[channel]--;
-        for (int i = 0; i < batchCount[channel]; i++) {
+        int left = batchCount[channel] - 1;
+        for (int i = 0; i < left; i++) {
             batchSize[first + i] = batchSize[first + i + 1];
         }
+        batchCount[channel] = left;
     }
 }

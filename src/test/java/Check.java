@@ -1,5 +1,6 @@
 import java.util.Map;
 import java.util.TreeMap;
+import java.util.function.Supplier;
 
 /** Counts the answers of one test that are not as due, and ends its program with 1 if there was one. */
 final class Check {
@@ -15,6 +16,14 @@ final class Check {
         if (!got.equals(want)) {
             wrong++;
             System.out.println(what + " answered " + got + ", due is " + want);
+        }
+    }
+
+    /** As above, for many millions of answers: the text is made only where it is needed. */
+    void dueOften(Supplier<String> what, int got, int want) {
+        asked++;
+        if (got != want) {
+            due(what.get(), got, want);
         }
     }
 

@@ -7,6 +7,7 @@ public final class DeliverTest {
         oldestBatchFirst();
         viewsMayBeNegative();
         channelsOutliveManyBatches();
+        everyChannelFull();
         refuses();
         CHECK.end();
     }
@@ -91,6 +92,22 @@ public final class DeliverTest {
                     CHECK.due("SINK after batch " + taken, x.viewCount(0, 3, 0, 0), 1 + taken / 3);
                     CHECK.due("batches left after batch " + taken, x.queuedBatches(0, 0), shipped - taken);
                 }
+            }
+        }
+    }
+
+    private static void everyChannelFull() {
+        ProgressTracker x = new ProgressTracker(4);
+        for (int s = 0; s < 4; s++) {
+            Runs.oneEntryBatches(x, s, 0, 32);
+        }
+        for (int s = 3; s >= 0; s--) {
+            for (int r = 3; r >= 0; r--) {
+                for (int i = 0; i < 32; i++) {
+                    CHECK.due("deliver(" + s + ", " + r + ")", x.deliver(s, r), 1);
+                }
+                CHECK.due("deliver(" + s + ", " + r + ") at the end", x.deliver(s, r), -8);
+                CHECK.due("view of " + r + " after " + s, x.viewCount(r, 1, 0, 0), 32 * (4 - s));
             }
         }
     }

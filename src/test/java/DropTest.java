@@ -6,6 +6,7 @@ public final class DropTest {
         changesOnlyCapabilitiesAndPending();
         refuses();
         refusesFullPending();
+        anothersBufferDoesNotMatter();
         CHECK.end();
     }
 
@@ -66,5 +67,11 @@ public final class DropTest {
         Runs.need(x.receive(0, 1, 0, 0), 0);
         CHECK.call(x, "drop at an entry of 2 of a full buffer", t -> t.drop(0, 1, 0, 0), 0,
             "caps[0](1,0,0) 2->1", "pending[0](1,0,0) 2->1");
+    }
+
+    private static void anothersBufferDoesNotMatter() {
+        ProgressTracker x = Runs.fullPending(2);
+        CHECK.call(x, "drop beside another's full buffer", t -> t.drop(1, 0, 0, 0), 0,
+            "caps[1](0,0,0) 1->0", "pending[1](0,0,0) 0->-1");
     }
 }

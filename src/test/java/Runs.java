@@ -21,6 +21,20 @@ final class Runs {
         }
     }
 
+    /** Worker w comes to hold a capability at (op, epoch, round) and drops every other, which at SOURCE is its last. */
+    static void holdAlone(ProgressTracker x, int w, int op, int epoch, int round) {
+        for (int e = 0; e < epoch; e++) {
+            need(x.advanceInput(w, e), 0);
+        }
+        hold(x, w, op, epoch, round);
+        for (int p = 0; p < 64; p++) {
+            boolean kept = p == op * 16 + epoch * 4 + round;
+            if (!kept && x.capabilities(w, p / 16, p / 4 % 4, p % 4) > 0) {
+                need(x.drop(w, p / 16, p / 4 % 4, p % 4), 0);
+            }
+        }
+    }
+
     /** Sends on the edge and receives what was sent. */
     static void pass(ProgressTracker x, int w, int edge, int epoch, int round) {
         int to = edge == 1 ? 2 : edge == 3 ? 3 : 1;
