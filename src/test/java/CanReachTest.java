@@ -1,54 +1,118 @@
-/** Promise 8. */
+/** Promise 8. A comment in quotes is the sentence of the document that the test below it holds. */
 public final class CanReachTest {
     private static final Check CHECK = new Check();
 
     public static void main(String[] args) {
+        workerNotInRange();
+        operatorNotInRange();
+        epochNotInRange();
+        roundNotInRange();
+        everythingInRange();
         everyPairOfPointstamps();
-        looksAtTheViewAlone();
-        countsBelowOneDoNotReach();
+        zeroDoesNotReach();
+        negativeDoesNotReach();
+        looksAtTheWorkersViewAlone();
         anyOfSeveralIsEnough();
-        badArgumentsAreFalse();
+        changesNothing();
         CHECK.end();
     }
 
+    /** "w is in range", "Otherwise it answers false." */
+    private static void workerNotInRange() {
+        for (int workers = 1; workers <= 4; workers++) {
+            int all = workers;
+            for (int w : Check.outside(workers)) {
+                CHECK.changesNothing("canReach(" + w + ", 3, 3, 3) of " + all, () -> Runs.busy(all),
+                    t -> t.canReach(w, 3, 3, 3) ? 1 : 0, 0);
+            }
+        }
+    }
+
+    /** "op, epoch and round are each in 0..3" */
+    private static void operatorNotInRange() {
+        for (int op : Check.OUTSIDE) {
+            CHECK.changesNothing("canReach(0, " + op + ", 3, 3)", () -> Runs.busy(2),
+                t -> t.canReach(0, op, 3, 3) ? 1 : 0, 0);
+        }
+    }
+
+    private static void epochNotInRange() {
+        for (int epoch : Check.OUTSIDE) {
+            CHECK.changesNothing("canReach(0, 3, " + epoch + ", 3)", () -> Runs.busy(2),
+                t -> t.canReach(0, 3, epoch, 3) ? 1 : 0, 0);
+        }
+    }
+
+    /** From BODY, HEAD is reached in round 4 too, but there is no pointstamp of that round. */
+    private static void roundNotInRange() {
+        for (int round : Check.OUTSIDE) {
+            for (int op = 0; op < 4; op++) {
+                int at = op;
+                CHECK.changesNothing("canReach(0, " + op + ", 3, " + round + ")", () -> Runs.busy(2),
+                    t -> t.canReach(0, at, 3, round) ? 1 : 0, 0);
+            }
+        }
+    }
+
+    /** At the start (0,0,0) has a count in every view, and it could result in every pointstamp. */
+    private static void everythingInRange() {
+        for (int workers = 1; workers <= 4; workers++) {
+            ProgressTracker x = new ProgressTracker(workers);
+            for (int w = 0; w < 4; w++) {
+                for (int p = 0; p < Stamp.COUNT; p++) {
+                    boolean got = x.canReach(w, Stamp.op(p), Stamp.epoch(p), Stamp.round(p));
+                    CHECK.due("canReach of " + w + " to " + Stamp.name(p), got, w < workers);
+                }
+            }
+        }
+    }
+
+    /** "some pointstamp p with view[w][p] > 0 could result in (op,epoch,round)" */
     private static void everyPairOfPointstamps() {
-        for (int p = 0; p < 64; p++) {
-            int op = p / 16;
-            int epoch = p / 4 % 4;
-            int round = p % 4;
-            if (op == ProgressTracker.SOURCE && round > 0) {
+        for (int p = 0; p < Stamp.COUNT; p++) {
+            if (Stamp.op(p) == ProgressTracker.SOURCE && Stamp.round(p) > 0) {
                 continue;
             }
             ProgressTracker x = new ProgressTracker(1);
-            Runs.holdAlone(x, 0, op, epoch, round);
+            Runs.holdAlone(x, 0, Stamp.op(p), Stamp.epoch(p), Stamp.round(p));
             Runs.settle(x, 0);
-            for (int q = 0; q < 64; q++) {
-                String call = "canReach from " + p + " to " + q;
-                boolean want = Graph.couldResultIn(op, epoch, round, q / 16, q / 4 % 4, q % 4);
-                CHECK.due(call, x.canReach(0, q / 16, q / 4 % 4, q % 4), want);
-            }
+            reachesWhatItCouldResultIn(x, 0, p);
         }
     }
 
-    private static void looksAtTheViewAlone() {
-        ProgressTracker x = new ProgressTracker(3);
-        for (int w = 0; w < 3; w++) {
-            Runs.need(x.advanceInput(w, 0), 0);
-            Runs.need(x.broadcast(w), 2);
+    private static void reachesWhatItCouldResultIn(ProgressTracker x, int w, int p) {
+        for (int q = 0; q < Stamp.COUNT; q++) {
+            boolean want = Graph.couldResultIn(Stamp.op(p), Stamp.epoch(p), Stamp.round(p),
+                Stamp.op(q), Stamp.epoch(q), Stamp.round(q));
+            boolean got = x.canReach(w, Stamp.op(q), Stamp.epoch(q), Stamp.round(q));
+            CHECK.due("canReach from " + Stamp.name(p) + " to " + Stamp.name(q), got, want);
         }
-        CHECK.due("canReach before any delivery", x.canReach(1, 3, 0, 0), true);
-        Runs.need(x.deliver(0, 1), 2);
-        Runs.need(x.deliver(1, 1), 2);
-        CHECK.due("canReach before the last delivery", x.canReach(1, 3, 0, 0), true);
-        Runs.need(x.deliver(2, 1), 2);
-        CHECK.due("canReach after the last delivery", x.canReach(1, 3, 0, 3), false);
-        CHECK.due("canReach of the next epoch", x.canReach(1, 3, 1, 0), true);
-        CHECK.due("canReach of a worker without deliveries", x.canReach(0, 3, 0, 0), true);
-        CHECK.due("couldArrive by then", x.couldArrive(3, 0, 3), false);
+    }
+
+    private static void reachesNothing(ProgressTracker x, int w, String when) {
+        for (int p = 0; p < Stamp.COUNT; p++) {
+            boolean got = x.canReach(w, Stamp.op(p), Stamp.epoch(p), Stamp.round(p));
+            CHECK.due("canReach to " + Stamp.name(p) + " " + when, got, false);
+        }
+    }
+
+    /** "view[w][p] > 0": at 1 it reaches, at 0 no more. */
+    private static void zeroDoesNotReach() {
+        for (int workers = 1; workers <= 4; workers++) {
+            ProgressTracker x = new ProgressTracker(workers);
+            for (int w = 0; w < workers; w++) {
+                CHECK.due("canReach with " + (workers - w) + " in the view", x.canReach(0, 3, 0, 0), true);
+                Runs.need(x.drop(w, 0, 0, 0), 0);
+                CHECK.due("canReach before the broadcast", x.canReach(0, 3, 0, 0), true);
+                Runs.settle(x, w);
+            }
+            CHECK.due("view at the end", x.viewCount(0, 0, 0, 0), 0);
+            reachesNothing(x, 0, "with 0 in the view");
+        }
     }
 
     /** Worker 1 hears of the end of a message before it hears of its sending. */
-    private static void countsBelowOneDoNotReach() {
+    private static void negativeDoesNotReach() {
         ProgressTracker x = new ProgressTracker(2);
         Runs.hold(x, 0, ProgressTracker.HEAD, 0, 0);
         Runs.settle(x, 0);
@@ -63,13 +127,31 @@ public final class CanReachTest {
         Runs.need(x.deliver(1, 1), 2);
         CHECK.due("view at SOURCE", x.viewCount(1, 0, 0, 0), 0);
         CHECK.due("view at BODY", x.viewCount(1, 2, 0, 0), -1);
-        CHECK.due("canReach(1, 0, 3, 3) by SOURCE", x.canReach(1, 0, 3, 3), false);
-        CHECK.due("canReach(1, 2, 0, 0) by HEAD", x.canReach(1, 2, 0, 0), true);
+        // All that HEAD (0,0) could result in, and not a pointstamp more or less.
+        reachesWhatItCouldResultIn(x, 1, Stamp.at(ProgressTracker.HEAD, 0, 0));
         Runs.need(x.drop(0, 1, 0, 0), 0);
         Runs.need(x.broadcast(0), 2);
-        CHECK.due("canReach(1, 1, 0, 0) by HEAD", x.canReach(1, 1, 0, 0), true);
+        reachesWhatItCouldResultIn(x, 1, Stamp.at(ProgressTracker.HEAD, 0, 0));
         Runs.need(x.deliver(0, 1), 2);
-        CHECK.due("canReach(1, 3, 3, 3) at the end", x.canReach(1, 3, 3, 3), false);
+        reachesNothing(x, 1, "at the end");
+    }
+
+    private static void looksAtTheWorkersViewAlone() {
+        ProgressTracker x = new ProgressTracker(3);
+        for (int w = 0; w < 3; w++) {
+            Runs.need(x.advanceInput(w, 0), 0);
+            Runs.need(x.broadcast(w), 2);
+        }
+        CHECK.due("canReach before any delivery", x.canReach(1, 3, 0, 0), true);
+        Runs.need(x.deliver(0, 1), 2);
+        Runs.need(x.deliver(1, 1), 2);
+        CHECK.due("canReach before the last delivery", x.canReach(1, 3, 0, 0), true);
+        Runs.need(x.deliver(2, 1), 2);
+        CHECK.due("canReach after the last delivery", x.canReach(1, 3, 0, 3), false);
+        CHECK.due("canReach of the next epoch", x.canReach(1, 3, 1, 0), true);
+        CHECK.due("canReach of worker 0 without deliveries", x.canReach(0, 3, 0, 0), true);
+        CHECK.due("canReach of worker 2 without deliveries", x.canReach(2, 3, 0, 0), true);
+        CHECK.due("couldArrive by then", x.couldArrive(3, 0, 3), false);
     }
 
     private static void anyOfSeveralIsEnough() {
@@ -87,17 +169,16 @@ public final class CanReachTest {
         CHECK.due("canReach(0, 1, 1, 3)", x.canReach(0, 1, 1, 3), false);
     }
 
-    private static void badArgumentsAreFalse() {
-        ProgressTracker x = new ProgressTracker(4);
-        for (int bad : Check.OUTSIDE) {
-            CHECK.due("canReach(" + bad + ", 3, 3, 3)", x.canReach(bad, 3, 3, 3), false);
-            CHECK.due("canReach(0, " + bad + ", 3, 3)", x.canReach(0, bad, 3, 3), false);
-            CHECK.due("canReach(0, 3, " + bad + ", 3)", x.canReach(0, 3, bad, 3), false);
-            CHECK.due("canReach(0, 3, 3, " + bad + ")", x.canReach(0, 3, 3, bad), false);
-            int as = bad;
-            CHECK.call(x, "canReach", t -> t.canReach(as, as, as, as) ? 1 : 0, 0);
+    /** "It changes nothing." */
+    private static void changesNothing() {
+        for (int p = 0; p < Stamp.COUNT; p++) {
+            int q = p;
+            for (int w = 0; w < 4; w++) {
+                int worker = w;
+                int want = Runs.busy(4).canReach(w, Stamp.op(p), Stamp.epoch(p), Stamp.round(p)) ? 1 : 0;
+                CHECK.changesNothing("canReach of " + w + " to " + Stamp.name(p), () -> Runs.busy(4),
+                    t -> t.canReach(worker, Stamp.op(q), Stamp.epoch(q), Stamp.round(q)) ? 1 : 0, want);
+            }
         }
-        CHECK.call(x, "canReach(3, 3, 3, 3)", t -> t.canReach(3, 3, 3, 3) ? 1 : 0, 1);
-        CHECK.due("canReach by worker 2 of 2", new ProgressTracker(2).canReach(2, 0, 0, 0), false);
     }
 }

@@ -1,15 +1,19 @@
-import java.util.Map;
-import java.util.TreeMap;
 import java.util.function.Supplier;
 
 /** Counts the answers of one test that are not as due, and ends its program with 1 if there was one. */
 final class Check {
-    /** Ints on both sides of every bound that the document names, and the ends of the int range. */
-    static final int[] OUTSIDE = {Integer.MIN_VALUE, -65, -64, -17, -16, -5, -4, -1, 4, 5, 16, 17, 64, 65,
-        1 << 24, 1 << 26, 1 << 28, 1 << 30, Integer.MAX_VALUE - 1, Integer.MAX_VALUE};
+    /** Ints on both sides of 0..3, ints that an index made of them would mistake, and the ends of the int range. */
+    static final int[] OUTSIDE = outside(4);
 
     private int wrong = 0;
     private int asked = 0;
+
+    /** Ints that are not in 0..size-1. */
+    static int[] outside(int size) {
+        return new int[] {Integer.MIN_VALUE, Integer.MIN_VALUE + 1, -65, -64, -17, -16, -5, -4, -2, -1, size, size + 1,
+            5, 16, 17, 64, 65, 256, 1 << 16, 1 << 24, 1 << 26, 1 << 28, 1 << 30, (1 << 30) + 1,
+            Integer.MAX_VALUE - 1, Integer.MAX_VALUE};
+    }
 
     void due(String what, Object got, Object want) {
         asked++;
@@ -27,12 +31,32 @@ final class Check {
         }
     }
 
-    /** Makes one call, and holds its answer and all that it changed against what is due. */
+    /** Makes one call, and holds its answer and every count that it changed against what is due. */
     void call(ProgressTracker x, String what, Call call, int want, String... changes) {
-        Map<String, Integer> before = counts(x);
+        int[] before = Counts.of(x);
         int got = call.on(x);
         due(what, got, want);
-        due("what " + what + " changed", difference(before, counts(x)), String.join("; ", changes));
+        due("what " + what + " changed", Counts.difference(before, Counts.of(x)), String.join("; ", changes));
+    }
+
+    /**
+     * As call, and no channel's content may change. The state is made twice, by the same calls: only a second
+     * object can show what would wait in the channels without the call.
+     */
+    void step(String what, Supplier<ProgressTracker> state, Call call, int want, String... changes) {
+        ProgressTracker x = state.get();
+        ProgressTracker twin = state.get();
+        call(x, what, call, want, changes);
+        due("which channels " + what + " changed", Channels.difference(Channels.of(twin), Channels.of(x)), "");
+    }
+
+    /** The call is refused, or only asks: no count, no conclusion and no channel may change. */
+    void changesNothing(String what, Supplier<ProgressTracker> state, Call call, int want) {
+        ProgressTracker x = state.get();
+        ProgressTracker twin = state.get();
+        call(x, what, call, want);
+        due("conclusions after " + what, conclusions(x), conclusions(twin));
+        due("which channels " + what + " changed", Channels.difference(Channels.of(twin), Channels.of(x)), "");
     }
 
     void end() {
@@ -50,36 +74,19 @@ final class Check {
         int on(ProgressTracker x);
     }
 
-    /** Every count that the object answers, of all workers that there can be. */
-    static Map<String, Integer> counts(ProgressTracker x) {
-        Map<String, Integer> all = new TreeMap<>();
-        for (int p = 0; p < 64; p++) {
-            int op = p / 16;
-            int e = p / 4 % 4;
-            int r = p % 4;
-            String point = "(" + op + "," + e + "," + r + ")";
-            all.put("msgs" + point, x.messages(op, e, r));
+    /** What the object answers to the questions that it has to work out. */
+    private static String conclusions(ProgressTracker x) {
+        StringBuilder text = new StringBuilder().append(x.isQuiet());
+        for (int p = 0; p < Stamp.COUNT; p++) {
+            text.append(x.couldArrive(Stamp.op(p), Stamp.epoch(p), Stamp.round(p)) ? 'y' : 'n');
             for (int w = 0; w < 4; w++) {
-                all.put("caps[" + w + "]" + point, x.capabilities(w, op, e, r));
-                all.put("pending[" + w + "]" + point, x.pendingCount(w, op, e, r));
-                all.put("view[" + w + "]" + point, x.viewCount(w, op, e, r));
+                text.append(x.canReach(w, Stamp.op(p), Stamp.epoch(p), Stamp.round(p)) ? 'y' : 'n');
             }
         }
-        for (int s = 0; s < 4; s++) {
-            for (int r = 0; r < 4; r++) {
-                all.put("queue[" + s + "][" + r + "]", x.queuedBatches(s, r));
-            }
-        }
-        return all;
-    }
-
-    private static String difference(Map<String, Integer> before, Map<String, Integer> after) {
-        StringBuilder text = new StringBuilder();
-        for (Map.Entry<String, Integer> entry : after.entrySet()) {
-            int old = before.get(entry.getKey());
-            if (old != entry.getValue()) {
-                text.append(text.length() == 0 ? "" : "; ");
-                text.append(entry.getKey()).append(' ').append(old).append("->").append(entry.getValue());
+        for (int i = 0; i < 16; i++) {
+            text.append(' ').append(x.frontierSize(i / 4, i % 4));
+            for (int index = 0; index < 4; index++) {
+                text.append(',').append(x.frontierElement(i / 4, i % 4, index));
             }
         }
         return text.toString();

@@ -1,14 +1,47 @@
-/** Promise 15. */
+/** Promise 15. A comment in quotes is the sentence of the document that the test below it holds. */
 public final class QueuedBatchesTest {
     private static final Check CHECK = new Check();
 
     public static void main(String[] args) {
+        senderNotInRange();
+        receiverNotInRange();
         everyChannelForItself();
+        fromNoneToThirtyTwo();
         countsBatchesNotEntries();
-        badArgumentsAnswerZero();
+        changesNothing();
         CHECK.end();
     }
 
+    /** "It answers 0 if s or r is not in range." */
+    private static void senderNotInRange() {
+        for (int workers = 1; workers <= 4; workers++) {
+            int all = workers;
+            for (int s : Check.outside(workers)) {
+                for (int r = 0; r < workers; r++) {
+                    int to = r;
+                    CHECK.changesNothing("queuedBatches(" + s + ", " + r + ") of " + all, () -> Runs.busy(all),
+                        t -> t.queuedBatches(s, to), 0);
+                }
+                CHECK.changesNothing("queuedBatches(" + s + ", " + s + ") of " + all, () -> Runs.busy(all),
+                    t -> t.queuedBatches(s, s), 0);
+            }
+        }
+    }
+
+    private static void receiverNotInRange() {
+        for (int workers = 1; workers <= 4; workers++) {
+            int all = workers;
+            for (int r : Check.outside(workers)) {
+                for (int s = 0; s < workers; s++) {
+                    int from = s;
+                    CHECK.changesNothing("queuedBatches(" + s + ", " + r + ") of " + all, () -> Runs.busy(all),
+                        t -> t.queuedBatches(from, r), 0);
+                }
+            }
+        }
+    }
+
+    /** "answers the number of batches in channel (s,r)" */
     private static void everyChannelForItself() {
         ProgressTracker x = new ProgressTracker(4);
         for (int s = 0; s < 4; s++) {
@@ -23,6 +56,24 @@ public final class QueuedBatchesTest {
             for (int r = 0; r < 4; r++) {
                 CHECK.due("queuedBatches(" + s + ", " + r + ")", x.queuedBatches(s, r), 20 + s - 4 * s - r);
             }
+        }
+    }
+
+    private static void fromNoneToThirtyTwo() {
+        for (int workers = 1; workers <= 4; workers++) {
+            int last = workers - 1;
+            ProgressTracker x = new ProgressTracker(workers);
+            for (int i = 0; i < 32; i++) {
+                CHECK.due("queuedBatches after " + i, x.queuedBatches(last, last), i);
+                Runs.oneEntryBatches(x, last, 0, 1);
+            }
+            CHECK.due("queuedBatches of a full channel", x.queuedBatches(last, last), 32);
+            for (int i = 31; i >= 0; i--) {
+                Runs.need(x.deliver(last, last), 1);
+                CHECK.due("queuedBatches with " + i + " left", x.queuedBatches(last, last), i);
+            }
+            Runs.need(x.deliver(last, last), -8);
+            CHECK.due("queuedBatches after an empty delivery", x.queuedBatches(last, last), 0);
         }
     }
 
@@ -43,23 +94,14 @@ public final class QueuedBatchesTest {
         CHECK.due("of the sender's own channel", x.queuedBatches(0, 0), 17);
     }
 
-    private static void badArgumentsAnswerZero() {
-        ProgressTracker x = new ProgressTracker(4);
-        for (int w = 0; w < 4; w++) {
-            Runs.oneEntryBatches(x, w, 0, 2);
+    /** "It changes nothing." */
+    private static void changesNothing() {
+        for (int i = 0; i < 16; i++) {
+            int s = i / 4;
+            int r = i % 4;
+            int heard = r == 3 ? 1 : (s + r) % 3;
+            CHECK.changesNothing("queuedBatches(" + s + ", " + r + ")", () -> Runs.busy(4),
+                t -> t.queuedBatches(s, r), 3 - heard);
         }
-        for (int bad : Check.OUTSIDE) {
-            for (int w = 0; w < 4; w++) {
-                int other = w;
-                CHECK.call(x, "queuedBatches(" + bad + ", " + w + ")", t -> t.queuedBatches(bad, other), 0);
-                CHECK.call(x, "queuedBatches(" + w + ", " + bad + ")", t -> t.queuedBatches(other, bad), 0);
-            }
-        }
-        CHECK.call(x, "queuedBatches(3, 3)", t -> t.queuedBatches(3, 3), 2);
-        ProgressTracker three = new ProgressTracker(3);
-        Runs.oneEntryBatches(three, 2, 0, 1);
-        CHECK.due("queuedBatches(2, 2) of 3", three.queuedBatches(2, 2), 1);
-        CHECK.due("queuedBatches(2, 3) of 3", three.queuedBatches(2, 3), 0);
-        CHECK.due("queuedBatches(3, 2) of 3", three.queuedBatches(3, 2), 0);
     }
 }

@@ -1,5 +1,9 @@
 /** Runs of calls that bring an object into a state that several tests need. */
 final class Runs {
+    /** In the state that everywhere makes: the capabilities of every worker, and the messages, at a pointstamp. */
+    static final int HELD = 3;
+    static final int WAITING = 2;
+
     private Runs() {
     }
 
@@ -27,10 +31,9 @@ final class Runs {
             need(x.advanceInput(w, e), 0);
         }
         hold(x, w, op, epoch, round);
-        for (int p = 0; p < 64; p++) {
-            boolean kept = p == op * 16 + epoch * 4 + round;
-            if (!kept && x.capabilities(w, p / 16, p / 4 % 4, p % 4) > 0) {
-                need(x.drop(w, p / 16, p / 4 % 4, p % 4), 0);
+        for (int p = 0; p < Stamp.COUNT; p++) {
+            if (p != Stamp.at(op, epoch, round) && held(x, w, p) > 0) {
+                dropAt(x, w, p);
             }
         }
     }
@@ -47,10 +50,15 @@ final class Runs {
         x.broadcast(w);
         for (int s = 0; s < 4; s++) {
             for (int r = 0; r < 4; r++) {
-                for (int i = 0; i < 32; i++) {
-                    x.deliver(s, r);
-                }
+                deliverAll(x, s, r);
             }
+        }
+    }
+
+    static void deliverAll(ProgressTracker x, int s, int r) {
+        int answer = 1;
+        for (int i = 0; i < 32 && answer > 0; i++) {
+            answer = x.deliver(s, r);
         }
     }
 
@@ -83,6 +91,143 @@ final class Runs {
             need(x.send(w, 0, epoch, 0), 0);
             need(x.broadcast(w), 1);
         }
+    }
+
+    /**
+     * Every worker holds HELD capabilities at every pointstamp of HEAD, BODY and SINK, and WAITING messages wait
+     * at each. The last worker's input stands at epoch 3, that of the others at this epoch. All have heard of all.
+     */
+    static ProgressTracker everywhere(int workers, int epochOfOthers) {
+        ProgressTracker x = new ProgressTracker(workers);
+        int last = workers - 1;
+        for (int epoch = 0; epoch < 4; epoch++) {
+            for (int round = 0; round < 4; round++) {
+                for (int op = 1; op < 4; op++) {
+                    supply(x, last, workers, Stamp.at(op, epoch, round));
+                }
+            }
+            if (epoch < 3) {
+                need(x.advanceInput(last, epoch), 0);
+            }
+        }
+        for (int w = 0; w < last; w++) {
+            for (int e = 0; e < epochOfOthers; e++) {
+                need(x.advanceInput(w, e), 0);
+            }
+            settle(x, w);
+        }
+        return x;
+    }
+
+    private static void supply(ProgressTracker x, int supplier, int workers, int p) {
+        for (int w = 0; w < workers; w++) {
+            for (int i = 0; i < HELD; i++) {
+                sendTo(x, supplier, p);
+                need(x.receive(w, Stamp.op(p), Stamp.epoch(p), Stamp.round(p)), 0);
+            }
+        }
+        for (int i = 0; i < WAITING; i++) {
+            sendTo(x, supplier, p);
+        }
+        settle(x, supplier);
+    }
+
+    /**
+     * As everywhere, and a change of anything would show: each worker's buffer has entries above and below 0,
+     * every channel holds batches, and no two views are the same.
+     */
+    static ProgressTracker busy(int workers) {
+        ProgressTracker x = everywhere(workers, 1);
+        for (int batch = 0; batch < 3; batch++) {
+            for (int w = 0; w < workers; w++) {
+                dropAt(x, w, 20 + 3 * w + batch);
+                sendTo(x, w, 40 + 5 * w + batch);
+                sendTo(x, w, 40 + 5 * w + batch);
+                need(x.broadcast(w), 2);
+            }
+        }
+        for (int i = 0; i < workers * workers; i++) {
+            int s = i / workers;
+            int r = i % workers;
+            int heard = r == 3 ? 1 : (s + r) % 3;
+            for (int k = 0; k < heard; k++) {
+                need(x.deliver(s, r), 2);
+            }
+        }
+        for (int w = 0; w < workers; w++) {
+            dropAt(x, w, 48 + 2 * w);
+            dropAt(x, w, 48 + 2 * w);
+            sendTo(x, w, 33 + w);
+        }
+        return x;
+    }
+
+    /** Worker w sends one message to pointstamp p, by the one edge that leads there. */
+    static void sendTo(ProgressTracker x, int w, int p) {
+        need(x.send(w, edgeTo(p), Stamp.epoch(p), roundBefore(p)), 0);
+    }
+
+    /** HEAD is reached from SOURCE in round 0 and from BODY in the others. */
+    static int edgeTo(int p) {
+        int op = Stamp.op(p);
+        return op == 2 ? 1 : op == 3 ? 3 : Stamp.round(p) == 0 ? 0 : 2;
+    }
+
+    static int roundBefore(int p) {
+        return edgeTo(p) == ProgressTracker.FEEDBACK_EDGE ? Stamp.round(p) - 1 : Stamp.round(p);
+    }
+
+    static void dropAt(ProgressTracker x, int w, int p) {
+        need(x.drop(w, Stamp.op(p), Stamp.epoch(p), Stamp.round(p)), 0);
+    }
+
+    static int held(ProgressTracker x, int w, int p) {
+        return x.capabilities(w, Stamp.op(p), Stamp.epoch(p), Stamp.round(p));
+    }
+
+    static int pendingAt(ProgressTracker x, int w, int p) {
+        return x.pendingCount(w, Stamp.op(p), Stamp.epoch(p), Stamp.round(p));
+    }
+
+    /** The document's "pending entries" of w. */
+    static int entries(ProgressTracker x, int w) {
+        int n = 0;
+        for (int p = 0; p < Stamp.COUNT; p++) {
+            n += pendingAt(x, w, p) == 0 ? 0 : 1;
+        }
+        return n;
+    }
+
+    /** Drops put -1 into places of w's buffer that are 0, but not at the kept pointstamps, until it has n entries. */
+    static void fillPending(ProgressTracker x, int w, int n, int... kept) {
+        int have = entries(x, w);
+        for (int p = Stamp.FIRST_OF_HEAD; p < Stamp.COUNT && have < n; p++) {
+            if (pendingAt(x, w, p) == 0 && !isOneOf(p, kept)) {
+                dropAt(x, w, p);
+                have++;
+            }
+        }
+        need(entries(x, w), n);
+    }
+
+    /** Drops and sends bring what w has pending at p to this value. */
+    static void bringPendingTo(ProgressTracker x, int w, int p, int value) {
+        for (int i = 0; i < value; i++) {
+            sendTo(x, w, p);
+        }
+        for (int i = 0; i > value; i--) {
+            dropAt(x, w, p);
+        }
+        need(pendingAt(x, w, p), value);
+    }
+
+    private static boolean isOneOf(int p, int[] list) {
+        for (int q : list) {
+            if (p == q) {
+                return true;
+            }
+        }
+        return false;
     }
 
     static void need(int got, int want) {
