@@ -14,6 +14,7 @@ public final class BroadcastTest {
         roomForEverySize();
         oneFullChannelIsEnough();
         refusedBroadcastTakesNoRoom();
+        refusedBroadcastKeepsTheBuffer();
         channelsOfOtherSendersDoNotCount();
         oneBatchForEveryWorker();
         everyPointstampAndDelta();
@@ -165,6 +166,21 @@ public final class BroadcastTest {
                 CHECK.due("broadcast of a 33rd entry", x.broadcast(0), -7);
             }
         }
+    }
+
+    /** What was refused is shipped later, together with what came to it. */
+    private static void refusedBroadcastKeepsTheBuffer() {
+        ProgressTracker x = holding(2, 1, CAPACITY, 16, 0);
+        Runs.sendTo(x, 0, 63);
+        CHECK.due("broadcast into a full channel", x.broadcast(0), -7);
+        Runs.sendTo(x, 0, 63);
+        Runs.dropAt(x, 0, 62);
+        CHECK.due("broadcast of more into a full channel", x.broadcast(0), -7);
+        Runs.deliverAll(x, 0, 1);
+        CHECK.due("broadcast of all of it", x.broadcast(0), 2);
+        List<List<String>> got = Channels.of(x);
+        CHECK.due("channel (0,0)", got.get(0), List.of("2 (3,3,2)-1 (3,3,3)+2", "end -8"));
+        CHECK.due("channel (0,1)", got.get(1), List.of("2 (3,3,2)-1 (3,3,3)+2", "end -8"));
     }
 
     private static void channelsOfOtherSendersDoNotCount() {

@@ -111,7 +111,11 @@ public final class CanReachTest {
         }
     }
 
-    /** Worker 1 hears of the end of a message before it hears of its sending. */
+    /**
+     * Worker 1 hears of the end of a message before it hears of its sending. No run can tell here whether a count
+     * below 0 reaches: who sent the message held a capability before it, whose end it tells after the sending, and
+     * so on back to the start, so that some count above 0 could always result in the one below 0.
+     */
     private static void negativeDoesNotReach() {
         ProgressTracker x = new ProgressTracker(2);
         Runs.hold(x, 0, ProgressTracker.HEAD, 0, 0);

@@ -39,7 +39,7 @@ public final class FrontierTest {
         }
     }
 
-    /** "It answers -1 if any of these holds: w is not in range; op is not in 0..3" */
+    /** "It answers -1 if any of these holds:" "w is not in range;" "op is not in 0..3;" */
     private static void elementOutOfRange() {
         for (int workers = 1; workers <= 4; workers++) {
             int all = workers;
@@ -296,6 +296,7 @@ public final class FrontierTest {
         }
     }
 
+    /** As in CanReachTest, the pairs that a count of -1 would add lie behind those of a count above 0. */
     private static void negativeDoesNotCount() {
         ProgressTracker x = new ProgressTracker(2);
         Runs.need(x.send(0, 0, 0, 0), 0);
