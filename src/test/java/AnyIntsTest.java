@@ -6,7 +6,7 @@ import java.util.List;
 public final class AnyIntsTest {
     private static final Check CHECK = new Check();
 
-    /** Below, at and above both edges of 0..3, multiples that an index or an overflow may mistake, and the least and greatest int. */
+    /** Ints below, at and above the edges of 0..3, some that an index or an overflow may mistake, and the two ends. */
     private static final int[] NUMBERS = {Integer.MIN_VALUE, -64, -16, -4, -1, 0, 3, 4, 16, 64,
         1 << 26, 1 << 28, 1 << 30, Integer.MAX_VALUE};
 
