@@ -70,13 +70,10 @@ public final class CanReachTest {
     /** "some pointstamp p with view[w][p] > 0 could result in (op,epoch,round)" */
     private static void everyPairOfPointstamps() {
         for (int p = 0; p < Stamp.COUNT; p++) {
-            if (Stamp.op(p) == ProgressTracker.SOURCE && Stamp.round(p) > 0) {
+            if (!Stamp.canHaveACount(p)) {
                 continue;
             }
-            ProgressTracker x = new ProgressTracker(1);
-            Runs.holdAlone(x, 0, Stamp.op(p), Stamp.epoch(p), Stamp.round(p));
-            Runs.settle(x, 0);
-            reachesWhatItCouldResultIn(x, 0, p);
+            reachesWhatItCouldResultIn(Runs.alone(p), 0, p);
         }
     }
 
@@ -112,9 +109,15 @@ public final class CanReachTest {
     }
 
     /**
-     * Worker 1 hears of the end of a message before it hears of its sending. No run can tell here whether a count
-     * below 0 reaches: who sent the message held a capability before it, whose end it tells after the sending, and
-     * so on back to the start, so that some count above 0 could always result in the one below 0.
+     * Worker 1 hears of the end of a message before it hears of its sending.
+     *
+     * No run can tell by canReach or by a frontier whether a count below 0 counts, since in the same view a count above
+     * 0 could always result in it. For let Q be the pointstamps where some worker s held a capability when it broadcast
+     * the last batch that the view knows of it, or later. (1) Take a q of Q that no other of Q could result in. Who sent
+     * to q did it from a capability that could result in q; that one isn't in Q, so the view knows of the send. But of
+     * the end of what s held at q it does not know. So the count at q is above 0. (2) A count below 0 at p means that
+     * the view does not know of some send to p. The capability that it came from is in Q, and could result in p. So a q
+     * as in (1) could result in p. (An advance is like a send and a drop.)
      */
     private static void negativeDoesNotReach() {
         ProgressTracker x = new ProgressTracker(2);

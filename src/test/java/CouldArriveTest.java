@@ -66,7 +66,7 @@ public final class CouldArriveTest {
     /** "some pointstamp p with OCC(p) > 0 could result in (op,epoch,round)" */
     private static void everyPairFromACapability() {
         for (int p = 0; p < Stamp.COUNT; p++) {
-            if (Stamp.op(p) == ProgressTracker.SOURCE && Stamp.round(p) > 0) {
+            if (!Stamp.canHaveACount(p)) {
                 continue;
             }
             ProgressTracker x = new ProgressTracker(1);

@@ -222,13 +222,7 @@ public final class DeliverTest {
     private static void viewsMayBeNegative() {
         for (int p = Stamp.FIRST_OF_HEAD; p < Stamp.COUNT; p++) {
             ProgressTracker x = new ProgressTracker(2);
-            for (int e = 0; e < Stamp.epoch(p); e++) {
-                Runs.need(x.advanceInput(0, e), 0);
-            }
-            if (Runs.edgeTo(p) != 0) {
-                int from = Runs.edgeTo(p) == 1 ? ProgressTracker.HEAD : ProgressTracker.BODY;
-                Runs.hold(x, 0, from, Stamp.epoch(p), Runs.roundBefore(p));
-            }
+            Runs.holdBefore(x, 0, p);
             Runs.settle(x, 0);
             handOver(x, p, 5);
             String at = Stamp.name(p);

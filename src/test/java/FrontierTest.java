@@ -103,12 +103,10 @@ public final class FrontierTest {
     private static void fromEverySinglePointstamp() {
         for (int p = 0; p < Stamp.COUNT; p++) {
             int from = Stamp.op(p);
-            if (from == ProgressTracker.SOURCE && Stamp.round(p) > 0) {
+            if (!Stamp.canHaveACount(p)) {
                 continue;
             }
-            ProgressTracker x = new ProgressTracker(1);
-            Runs.holdAlone(x, 0, from, Stamp.epoch(p), Stamp.round(p));
-            Runs.settle(x, 0);
+            ProgressTracker x = Runs.alone(p);
             for (int op = 0; op < 4; op++) {
                 if (Graph.K[from][op] == Graph.NONE) {
                     frontierIs(x, 0, op);

@@ -1,8 +1,11 @@
 import com.sun.source.tree.ArrayTypeTree;
 import com.sun.source.tree.AssignmentTree;
+import com.sun.source.tree.BinaryTree;
 import com.sun.source.tree.BlockTree;
 import com.sun.source.tree.ClassTree;
 import com.sun.source.tree.CompilationUnitTree;
+import com.sun.source.tree.CompoundAssignmentTree;
+import com.sun.source.tree.ExpressionStatementTree;
 import com.sun.source.tree.ExpressionTree;
 import com.sun.source.tree.ForLoopTree;
 import com.sun.source.tree.IdentifierTree;
@@ -15,6 +18,7 @@ import com.sun.source.tree.PrimitiveTypeTree;
 import com.sun.source.tree.Tree;
 import com.sun.source.tree.Tree.Kind;
 import com.sun.source.tree.TypeCastTree;
+import com.sun.source.tree.UnaryTree;
 import com.sun.source.tree.VariableTree;
 import com.sun.source.util.JavacTask;
 import com.sun.source.util.SourcePositions;
@@ -23,6 +27,7 @@ import com.sun.source.util.Trees;
 import java.io.File;
 import java.io.IOException;
 import java.util.EnumSet;
+import java.util.HashMap;
 import java.util.HashSet;
 import java.util.List;
 import java.util.Map;
@@ -35,13 +40,19 @@ import javax.tools.JavaCompiler;
 import javax.tools.StandardJavaFileManager;
 import javax.tools.ToolProvider;
 
-/** Those rules of LANGUAGE.md that the program's text shows. It must run in the project's folder. */
+/**
+ * Those rules of LANGUAGE.md that the program's text shows, some of them more strictly than they are: a loop is a for
+ * that counts up to a name or number which its body leaves alone, and a divisor is a constant. It must run in the
+ * project's folder.
+ */
 public final class LanguageTest {
     private static final Set<Kind> NEVER = EnumSet.of(
         Kind.NEW_CLASS, Kind.NULL_LITERAL, Kind.STRING_LITERAL, Kind.FLOAT_LITERAL, Kind.DOUBLE_LITERAL,
         Kind.THROW, Kind.TRY, Kind.SYNCHRONIZED, Kind.ASSERT, Kind.INSTANCE_OF, Kind.LAMBDA_EXPRESSION,
         Kind.MEMBER_REFERENCE, Kind.INTERFACE, Kind.ENUM, Kind.RECORD, Kind.ANNOTATION_TYPE, Kind.ANNOTATION,
-        Kind.PARAMETERIZED_TYPE, Kind.ENHANCED_FOR_LOOP);
+        Kind.PARAMETERIZED_TYPE, Kind.ENHANCED_FOR_LOOP, Kind.WHILE_LOOP, Kind.DO_WHILE_LOOP);
+    private static final Set<Kind> DIVISIONS = EnumSet.of(
+        Kind.DIVIDE, Kind.REMAINDER, Kind.DIVIDE_ASSIGNMENT, Kind.REMAINDER_ASSIGNMENT);
     private static final Set<TypeKind> NUMBERS = EnumSet.of(
         TypeKind.INT, TypeKind.LONG, TypeKind.SHORT, TypeKind.BYTE, TypeKind.CHAR, TypeKind.BOOLEAN);
 
@@ -49,6 +60,7 @@ public final class LanguageTest {
     private static final Set<String> METHODS = new TreeSet<>();
     private static final Set<String> ARRAY_FIELDS = new TreeSet<>();
     private static final Set<String> CONSTANTS = new HashSet<>();
+    private static final Map<String, Tree> INITIALISERS = new HashMap<>();
     private static final Map<String, Set<String>> CALLS = new TreeMap<>();
 
     private static CompilationUnitTree unit;
@@ -89,6 +101,27 @@ public final class LanguageTest {
         return field.getModifiers().getFlags().contains(Modifier.STATIC);
     }
 
+    /** A literal, with or without a minus, or the name of a constant. */
+    private static boolean isNumber(Tree tree) {
+        return tree instanceof LiteralTree
+            || tree instanceof UnaryTree minus && minus.getKind() == Kind.UNARY_MINUS && isNumber(minus.getExpression())
+            || tree instanceof IdentifierTree name && CONSTANTS.contains(name.getName().toString());
+    }
+
+    private static boolean isAboveZero(Tree tree) {
+        return isNumber(tree) && valueOf(tree) > 0;
+    }
+
+    private static long valueOf(Tree number) {
+        if (number instanceof LiteralTree literal) {
+            return literal.getValue() instanceof Number value ? value.longValue() : 0;
+        }
+        if (number instanceof IdentifierTree name) {
+            return valueOf(INITIALISERS.get(name.getName().toString()));
+        }
+        return -valueOf(((UnaryTree) number).getExpression());
+    }
+
     private static void gatherNames(ClassTree type) {
         for (Tree member : type.getMembers()) {
             if (member instanceof MethodTree method) {
@@ -97,6 +130,7 @@ public final class LanguageTest {
                 CHECK.due("methods named " + name + " are one", METHODS.add(name), true);
             } else if (member instanceof VariableTree field && isConstant(field)) {
                 CONSTANTS.add(field.getName().toString());
+                INITIALISERS.put(field.getName().toString(), field.getInitializer());
             } else if (member instanceof VariableTree field && field.getType() instanceof ArrayTypeTree) {
                 ARRAY_FIELDS.add(field.getName().toString());
             }
@@ -123,7 +157,7 @@ public final class LanguageTest {
         if (isConstant(field)) {
             boolean whole = field.getType() instanceof PrimitiveTypeTree kind
                 && (kind.getPrimitiveTypeKind() == TypeKind.INT || kind.getPrimitiveTypeKind() == TypeKind.LONG);
-            if (!whole || !flags.contains(Modifier.FINAL) || field.getInitializer() == null) {
+            if (!whole || !flags.contains(Modifier.FINAL) || !isNumber(field.getInitializer())) {
                 broken(5, "a static field that is no constant of int or long", field);
             }
         } else if (!flags.contains(Modifier.PRIVATE)) {
@@ -207,9 +241,7 @@ public final class LanguageTest {
         public Void visitNewArray(NewArrayTree array, Void none) {
             List<? extends ExpressionTree> lengths = array.getDimensions();
             boolean one = lengths.size() == 1 && array.getInitializers() == null;
-            boolean fixed = one && (lengths.get(0) instanceof LiteralTree
-                || lengths.get(0) instanceof IdentifierTree name && CONSTANTS.contains(name.getName().toString()));
-            if (inside != null || !fixed) {
+            if (inside != null || !one || !isAboveZero(lengths.get(0))) {
                 broken(4, "an array made in a method, or without a constant length", array);
             }
             return super.visitNewArray(array, none);
@@ -263,10 +295,71 @@ public final class LanguageTest {
 
         @Override
         public Void visitForLoop(ForLoopTree loop, Void none) {
-            if (loop.getCondition() == null || loop.getUpdate().isEmpty()) {
+            if (!endsVisibly(loop)) {
                 broken(8, "a loop whose end cannot be seen", loop);
             }
             return super.visitForLoop(loop, none);
+        }
+
+        @Override
+        public Void visitBinary(BinaryTree binary, Void none) {
+            if (DIVISIONS.contains(binary.getKind()) && !isAboveZero(binary.getRightOperand())) {
+                broken(7, "a divisor that may be 0", binary);
+            }
+            return super.visitBinary(binary, none);
+        }
+
+        @Override
+        public Void visitCompoundAssignment(CompoundAssignmentTree set, Void none) {
+            if (DIVISIONS.contains(set.getKind()) && !isAboveZero(set.getExpression())) {
+                broken(7, "a divisor that may be 0", set);
+            }
+            return super.visitCompoundAssignment(set, none);
+        }
+    }
+
+    /** "for (int i = ...; i < bound; i++)", or with "<=", where the body sets neither i nor the bound. */
+    private static boolean endsVisibly(ForLoopTree loop) {
+        boolean oneOfEach = loop.getInitializer().size() == 1 && loop.getUpdate().size() == 1;
+        if (!oneOfEach || !(loop.getInitializer().get(0) instanceof VariableTree counter)
+            || !(loop.getCondition() instanceof BinaryTree condition)) {
+            return false;
+        }
+        String name = counter.getName().toString();
+        String bound = condition.getRightOperand().toString();
+        boolean compares = condition.getKind() == Kind.LESS_THAN || condition.getKind() == Kind.LESS_THAN_EQUAL;
+        boolean boundIsPlain = condition.getRightOperand() instanceof IdentifierTree || isNumber(condition.getRightOperand());
+        Names set = new Names();
+        set.scan(loop.getStatement(), null);
+        return compares && condition.getLeftOperand().toString().equals(name) && boundIsPlain
+            && isIncrement(loop.getUpdate().get(0), name) && !set.names.contains(name) && !set.names.contains(bound);
+    }
+
+    private static boolean isIncrement(ExpressionStatementTree update, String name) {
+        return update.getExpression() instanceof UnaryTree step && step.getKind() == Kind.POSTFIX_INCREMENT
+            && step.getExpression().toString().equals(name);
+    }
+
+    /** The names that a piece of the program sets. */
+    private static final class Names extends TreeScanner<Void, Void> {
+        private final Set<String> names = new HashSet<>();
+
+        @Override
+        public Void visitAssignment(AssignmentTree set, Void none) {
+            names.add(set.getVariable().toString());
+            return super.visitAssignment(set, none);
+        }
+
+        @Override
+        public Void visitCompoundAssignment(CompoundAssignmentTree set, Void none) {
+            names.add(set.getVariable().toString());
+            return super.visitCompoundAssignment(set, none);
+        }
+
+        @Override
+        public Void visitUnary(UnaryTree unary, Void none) {
+            names.add(unary.getExpression().toString());
+            return super.visitUnary(unary, none);
         }
     }
 }

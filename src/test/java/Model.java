@@ -24,6 +24,10 @@ final class Model {
             return getOrDefault(p, 0);
         }
 
+        int total() {
+            return values().stream().mapToInt(count -> count).sum();
+        }
+
         Bag with(Point p, int delta) {
             Bag sum = new Bag();
             sum.putAll(this);
@@ -245,6 +249,26 @@ final class Model {
             return -1;
         }
         return frontier(w, op).get(index);
+    }
+
+    private int count(List<Bag> counts, int w, int op, int epoch, int round) {
+        return worker(w) && small(op, epoch, round) ? counts.get(w).at(new Point(op, epoch, round)) : 0;
+    }
+
+    int viewCount(int w, int op, int epoch, int round) {
+        return count(view, w, op, epoch, round);
+    }
+
+    int pendingCount(int w, int op, int epoch, int round) {
+        return count(pending, w, op, epoch, round);
+    }
+
+    int capabilities(int w, int op, int epoch, int round) {
+        return count(caps, w, op, epoch, round);
+    }
+
+    int messages(int op, int epoch, int round) {
+        return small(op, epoch, round) ? msgs.at(new Point(op, epoch, round)) : 0;
     }
 
     int queuedBatches(int s, int r) {

@@ -38,6 +38,14 @@ final class Runs {
         }
     }
 
+    /** One worker holds a capability at p and nothing else is anywhere, and its view knows. */
+    static ProgressTracker alone(int p) {
+        ProgressTracker x = new ProgressTracker(1);
+        holdAlone(x, 0, Stamp.op(p), Stamp.epoch(p), Stamp.round(p));
+        settle(x, 0);
+        return x;
+    }
+
     /** Sends on the edge and receives what was sent. */
     static void pass(ProgressTracker x, int w, int edge, int epoch, int round) {
         int to = edge == 1 ? 2 : edge == 3 ? 3 : 1;
@@ -160,6 +168,15 @@ final class Runs {
             sendTo(x, w, 33 + w);
         }
         return x;
+    }
+
+    /** Worker w of a fresh object comes to hold a capability from which it can send to pointstamp p. */
+    static void holdBefore(ProgressTracker x, int w, int p) {
+        int[] before = {ProgressTracker.SOURCE, ProgressTracker.HEAD, ProgressTracker.BODY, ProgressTracker.BODY};
+        for (int e = 0; e < Stamp.epoch(p); e++) {
+            need(x.advanceInput(w, e), 0);
+        }
+        hold(x, w, before[edgeTo(p)], Stamp.epoch(p), roundBefore(p));
     }
 
     /** Worker w sends one message to pointstamp p, by the one edge that leads there. */

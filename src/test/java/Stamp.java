@@ -24,6 +24,11 @@ final class Stamp {
         return p % 4;
     }
 
+    /** SOURCE has capabilities in round 0 only, and messages never: no edge leads there. */
+    static boolean canHaveACount(int p) {
+        return op(p) != ProgressTracker.SOURCE || round(p) == 0;
+    }
+
     static String name(int p) {
         return "(" + op(p) + "," + epoch(p) + "," + round(p) + ")";
     }
