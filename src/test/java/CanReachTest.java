@@ -111,13 +111,13 @@ public final class CanReachTest {
     /**
      * Worker 1 hears of the end of a message before it hears of its sending.
      *
-     * No run can tell by canReach or by a frontier whether a count below 0 counts, since in the same view a count above
-     * 0 could always result in it. For let Q be the pointstamps where some worker s held a capability when it broadcast
-     * the last batch that the view knows of it, or later. (1) Take a q of Q that no other of Q could result in. Who sent
-     * to q did it from a capability that could result in q; that one isn't in Q, so the view knows of the send. But of
-     * the end of what s held at q it does not know. So the count at q is above 0. (2) A count below 0 at p means that
-     * the view does not know of some send to p. The capability that it came from is in Q, and could result in p. So a q
-     * as in (1) could result in p. (An advance is like a send and a drop.)
+     * No run can tell by canReach or by a frontier whether a count below 0 counts, since in the same view a count
+     * above 0 could always result in it. For let Q be the pointstamps where some worker s held a capability when it
+     * broadcast the last batch that the view knows of it, or later. (1) Take a q of Q that no other of Q could result
+     * in. Who sent to q did it from a capability that could result in q; that one isn't in Q, so the view knows of the
+     * send. But of the end of what s held at q it does not know. So the count at q is above 0. (2) A count below 0 at
+     * p means that the view does not know of some send to p. The capability that it came from is in Q, and could
+     * result in p. So a q as in (1) could result in p. (An advance is like a send and a drop.)
      */
     private static void negativeDoesNotReach() {
         ProgressTracker x = new ProgressTracker(2);

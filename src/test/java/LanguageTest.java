@@ -326,13 +326,14 @@ public final class LanguageTest {
             return false;
         }
         String name = counter.getName().toString();
-        String bound = condition.getRightOperand().toString();
         boolean compares = condition.getKind() == Kind.LESS_THAN || condition.getKind() == Kind.LESS_THAN_EQUAL;
-        boolean boundIsPlain = condition.getRightOperand() instanceof IdentifierTree || isNumber(condition.getRightOperand());
+        ExpressionTree right = condition.getRightOperand();
+        boolean boundIsPlain = right instanceof IdentifierTree || isNumber(right);
         Names set = new Names();
         set.scan(loop.getStatement(), null);
+        boolean leftAlone = !set.names.contains(name) && !set.names.contains(right.toString());
         return compares && condition.getLeftOperand().toString().equals(name) && boundIsPlain
-            && isIncrement(loop.getUpdate().get(0), name) && !set.names.contains(name) && !set.names.contains(bound);
+            && isIncrement(loop.getUpdate().get(0), name) && leftAlone;
     }
 
     private static boolean isIncrement(ExpressionStatementTree update, String name) {

@@ -89,7 +89,8 @@ public final class ModelTest {
 
     private static void reached(int workers) {
         for (String answer : REACHED) {
-            CHECK.due("whether " + workers + " workers met '" + answer + "'", SEEN.contains(workers + ": " + answer), true);
+            String met = workers + ": " + answer;
+            CHECK.due("whether the runs met '" + met + "'", SEEN.contains(met), true);
         }
         // One worker alone hears of all changes in their order.
         CHECK.due("whether a view of " + workers + " workers was below 0", SEEN.contains(workers + ": view below 0"),
@@ -177,12 +178,12 @@ public final class ModelTest {
         saw(call + " " + want);
     }
 
-    private void saw(String what) {
-        SEEN.add(model.workers + ": " + what);
-    }
-
     private void met(String call, boolean got, boolean want, int... args) {
         met(call, got ? 1 : 0, want ? 1 : 0, args);
+    }
+
+    private void saw(String what) {
+        SEEN.add(model.workers + ": " + what);
     }
 
     private void ask(int kind) {
@@ -257,7 +258,7 @@ public final class ModelTest {
         return someOf(known ? model.caps.get(w) : new Model.Bag());
     }
 
-    /** The earlier of two: the first rounds of the first epochs are left first, as in a dataflow that comes to its end. */
+    /** The earlier of two: the first rounds of the first epochs are left first, as in a run that comes to its end. */
     private int[] earlierHeld(int w) {
         int[] one = held(w);
         int[] other = held(w);
@@ -267,7 +268,7 @@ public final class ModelTest {
 
     /** A view empties out only where there are not too many messages and capabilities. */
     private boolean isCrowded() {
-        int all = style.crowd == NO_CROWD ? 0 : model.msgs.total();
+        int all = model.msgs.total();
         for (Model.Bag held : model.caps) {
             all += held.total();
         }
